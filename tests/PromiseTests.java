@@ -339,6 +339,15 @@ public final class PromiseTests {
         typeText(x, "((((a)9)9)9)9");
         due("too long", x.parts(0, 0), NO);
 
+        x = withTongues(1, 3);
+        x.say(1);
+        path(x, "((aaaaa)8)4(a)9(a)9(a)9(a)9aaab");
+        due("the longest path", x.length(), 200);
+        due("behind step 199", x.parts(199, 0), 1);
+        due("behind step 200", x.parts(200, 0), 3);
+        due("added in step 200", x.step(200, 1), 1);
+        due("state 201", x.parts(201, 0), BAD);
+
         x = withTongues(0);
         x.word(0, 2, 0, 1);
         x.word(0, 4, 0, 3);
